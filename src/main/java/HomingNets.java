@@ -201,7 +201,7 @@ public final class HomingNets {
     }
 
     public int loop(int daemon, int what) {
-        if (daemon != LOWEST && daemon != TOGETHER && daemon != CRUEL || what < 0 || what > 1) {
+        if ((daemon != LOWEST && daemon != TOGETHER && daemon != CRUEL) || what < 0 || what > 1) {
             return BAD;
         }
         if (daemon == CRUEL) {
@@ -398,7 +398,7 @@ public final class HomingNets {
             if (last < 0) {
                 return lowest(bits);
             }
-            int behind = bits >> last + 1 << last + 1;
+            int behind = (bits >> (last + 1)) << (last + 1);
             return last < machines && behind != 0 ? lowest(behind) : lowest(bits);
         }
 
@@ -432,8 +432,8 @@ public final class HomingNets {
                     || newRange < 2 || newRange > MOST_RANGE) {
                 return false;
             }
-            if (newKind == POINTERS && newRange != newMachines + 1
-                    || newKind == DISTANCES && newRange < newMachines) {
+            if ((newKind == POINTERS && newRange != newMachines + 1)
+                    || (newKind == DISTANCES && newRange < newMachines)) {
                 return false;
             }
             int power = 1;

@@ -249,6 +249,8 @@ public final class PromisesTest {
         due("three colours, three wires", x.lay(), NO);
         tell(x, "g453;e04;e14;e24;");
         due("three colours, three wires, of the last one", x.lay(), NO);
+        tell(x, "g442;e01;");
+        due("wires told before are none of these", x.lay(), 16);
         tell(x, "g332;");
         due("distances too few", x.lay(), NO);
         tell(x, "g333;e01;e02;e12;");
@@ -525,6 +527,17 @@ public final class PromisesTest {
         y.turn(8);
         y.move(1);
         due("what was no change can not be undone", y.undo(), NO);
+        // Who moved last is kept with each of more changes than can be undone.
+        HomingNets w = laid("g464;e01;e12;e23;e34;e45;e50;");
+        for (int k = 0; k < 6; k++) {
+            w.run(1, 0, 1);
+            w.turn(0);
+        }
+        int[] lasts = {5, 4, 4, 3, 3, 2};
+        for (int k = 0; k < 6; k++) {
+            due("undo of twelve", w.undo(), 5 - k);
+            due("last of twelve, undone " + k, w.count(7), lasts[k]);
+        }
         // What is set by daemon 1 stays through other changes and comes back with them.
         HomingNets z = new HomingNets();
         z.run(1, 0, 1);
@@ -603,6 +616,7 @@ public final class PromisesTest {
             due("drawn code by " + z, x.code(), y.code());
             due("drawn is not by daemon 1", x.count(7), NONE);
         }
+        due("one of one", laid("g322;e01;x01;x11;").run(3, 0, 300), 1);
         // The draws of the next run begin with 0 again.
         HomingNets x = laid("g155;x04;x13;x22;x31;x40;");
         x.run(3, 5, 2);
@@ -646,6 +660,13 @@ public final class PromisesTest {
         HomingNets x = laid("g144;x03;x12;x21;");
         int worst = x.state(x.code(), 0);
         due("the worst there is", x.run(4, 0, 300), worst);
+        // Asked first of all, ahead of what is told of all states.
+        due("run first", new HomingNets().run(4, 0, 300), 4);
+        due("next first", new HomingNets().next(4), 8);
+        due("loop first", new HomingNets().loop(4, 0), 5);
+        due("of several the lowest", laid("g422;e01;").next(4), 1);
+        HomingNets z = laid("g464;e01;e12;e23;e34;e45;e50;");
+        due("of all six the lowest", z.next(4), 1);
         HomingNets y = laid("g142;x01;x21;");
         due("no end", y.state(y.code(), 0), EVER);
         due("the worst goes on for ever", y.run(4, 0, 300), 300);
@@ -706,6 +727,9 @@ public final class PromisesTest {
         HomingNets z = laid("g422;e01;");
         due("colours at once: ahead", z.loop(2, 0), 0);
         due("colours at once: round", z.loop(2, 1), 2);
+        HomingNets w = laid("g122;");
+        due("round through all states there are", w.loop(0, 1), 4);
+        due("round through all states from the first", w.loop(0, 0), 0);
         // Asking for a loop ahead of all else leaves what is said of all states as it is.
         due("behind a loop", z.all(0), 2);
         due("behind that a loop", z.loop(4, 0), 1);
@@ -778,6 +802,9 @@ public final class PromisesTest {
                 }
             }
         }
+        HomingNets quiet = laid("g422;");
+        due("always legal", quiet.storm(0, 5, 200, 0), 200);
+        due("never in a row", quiet.storm(0, 5, 200, 2), 0);
         // From now on: who moved last by daemon 1 is not forgotten.
         HomingNets y = laid("g464;e01;e12;e23;e34;e45;e50;");
         y.run(1, 0, 1);
@@ -819,6 +846,16 @@ public final class PromisesTest {
     }
 
     static void stateForEver() {
+        // Two pointers at themselves: both let go, then each takes the other one, in whatever order.
+        HomingNets p = laid("g223;e01;x01;x12;");
+        due("pointers: worst", p.state(7, 0), 4);
+        due("pointers: best", p.state(7, 1), 4);
+        due("pointers: hits", p.state(7, 2), 2);
+        // Three 0s in a row of colours: the one in the middle mends both wires.
+        HomingNets q = laid("g433;e01;e12;");
+        due("colours: worst", q.state(0, 0), 2);
+        due("colours: best", q.state(0, 1), 1);
+        due("colours: hits", q.state(0, 2), 1);
         // Four counters with two values are too few: three tokens can go round without meeting.
         HomingNets x = laid("g142;x01;x21;");
         int code = x.code();
