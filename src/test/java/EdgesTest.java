@@ -1,6 +1,7 @@
 /**
  * Each sentence of the document that names an edge (too small, too large, empty, full, round, refused)
- * by a test of its own; the answers due are worked out by hand.
+ * by a test of its own. The answers due are worked out by hand, but for some of the net at first
+ * (65 that are LEGAL, what DAEMON 4 does), which ../shared/tests tells.
  */
 public final class EdgesTest {
     static final int BAD = -1, NO = -2, FULL = -3, NONE = -4, EVER = -5;
