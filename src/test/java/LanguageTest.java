@@ -1,17 +1,31 @@
+import com.sun.source.tree.ArrayAccessTree;
 import com.sun.source.tree.ArrayTypeTree;
 import com.sun.source.tree.AssertTree;
+import com.sun.source.tree.BinaryTree;
+import com.sun.source.tree.BlockTree;
 import com.sun.source.tree.ClassTree;
 import com.sun.source.tree.CompilationUnitTree;
+import com.sun.source.tree.CompoundAssignmentTree;
+import com.sun.source.tree.DoWhileLoopTree;
+import com.sun.source.tree.ExpressionTree;
+import com.sun.source.tree.ForLoopTree;
 import com.sun.source.tree.IdentifierTree;
+import com.sun.source.tree.InstanceOfTree;
 import com.sun.source.tree.LambdaExpressionTree;
 import com.sun.source.tree.MemberReferenceTree;
 import com.sun.source.tree.MemberSelectTree;
 import com.sun.source.tree.MethodInvocationTree;
 import com.sun.source.tree.MethodTree;
+import com.sun.source.tree.NewArrayTree;
+import com.sun.source.tree.NewClassTree;
+import com.sun.source.tree.PrimitiveTypeTree;
 import com.sun.source.tree.SynchronizedTree;
 import com.sun.source.tree.ThrowTree;
+import com.sun.source.tree.Tree;
 import com.sun.source.tree.TryTree;
+import com.sun.source.tree.TypeCastTree;
 import com.sun.source.tree.VariableTree;
+import com.sun.source.tree.WhileLoopTree;
 import com.sun.source.util.JavacTask;
 import com.sun.source.util.TreeScanner;
 import java.lang.reflect.Field;
@@ -36,6 +50,10 @@ public final class LanguageTest {
         "wired(2)", "may(1)", "becomes(1)", "move(1)", "tokens(0)", "legal(0)", "mate(1)", "undo(0)", "run(3)", "next(1)",
         "loop(2)", "storm(4)", "state(2)", "all(1)", "within(2)", "count(1)");
     static final Set<String> LIBRARY = Set.of("bitCount", "max", "min", "fill", "charAt", "length");
+    // Where a row is read or divided by something, the index or the divisor is looked at in the same method.
+    static final Set<String> READ_ROWS = Set.of("at", "put", "valueAt", "isLinked");
+    static final Set<String> DIVIDE = Set.of("valueAt", "drawn", "struck");
+    static final Set<String> TYPES = Set.of("int", "long", "boolean", "int[]", "String", "Text", "Net", "Survey", "Past");
     static int wrong = 0;
 
     public static void main(String[] args) throws Exception {
@@ -72,7 +90,9 @@ public final class LanguageTest {
         }
         for (Field f : face.getDeclaredFields()) {
             int mods = f.getModifiers();
-            rule(1, f + " is not private", Modifier.isPrivate(mods) || Set.of("BAD", "NO", "FULL", "NONE", "EVER").contains(f.getName()));
+            boolean told = Set.of("BAD", "NO", "FULL", "NONE", "EVER").contains(f.getName());
+            rule(1, f + " is not private", told ? Modifier.isPublic(mods) : Modifier.isPrivate(mods));
+            lookAtConstant(f);
         }
         rule(1, "one public constructor", face.getDeclaredConstructors().length == 1 && face.getConstructors().length == 1);
         rule(11, "classes", face.getDeclaredClasses().length < 12);
@@ -88,11 +108,18 @@ public final class LanguageTest {
         for (Field f : c.getDeclaredFields()) {
             boolean fixed = Modifier.isStatic(f.getModifiers());
             fields += fixed ? 0 : 1;
-            rule(5, f + " is not final", !fixed || Modifier.isFinal(f.getModifiers()));
+            lookAtConstant(f);
         }
         rule(11, c + " has too many fields", fields <= 20);
         for (Method m : c.getDeclaredMethods()) {
             rule(1, m + " bears a public name", !publicNames.contains(m.getName()));
+        }
+    }
+
+    static void lookAtConstant(Field f) {
+        if (Modifier.isStatic(f.getModifiers())) {
+            rule(5, f + " is not final", Modifier.isFinal(f.getModifiers()));
+            rule(5, f + " is no constant", f.getType() == int.class || f.getType() == String.class);
         }
     }
 
@@ -146,6 +173,9 @@ public final class LanguageTest {
             calls.computeIfAbsent(method, name -> new HashSet<>());
             rule(11, method + " is long", tree.toString().lines().count() <= 60);
             rule(11, method + " takes too much", tree.getParameters().size() <= 7);
+            String answers = String.valueOf(tree.getReturnType());
+            rule(3, method + " answers " + answers, tree.getReturnType() == null || answers.equals("void") || TYPES.contains(answers));
+            rule(6, method + " throws", tree.getThrows().isEmpty());
             super.visitMethod(tree, none);
             method = before;
             return null;
@@ -174,7 +204,7 @@ public final class LanguageTest {
         @Override
         public Void visitVariable(VariableTree tree, Void none) {
             String type = String.valueOf(tree.getType());
-            rule(3, "type " + type, Set.of("int", "long", "boolean", "int[]", "String", "Text", "Net", "Survey", "Past").contains(type));
+            rule(3, "type " + type, TYPES.contains(type));
             return super.visitVariable(tree, none);
         }
 
@@ -182,6 +212,82 @@ public final class LanguageTest {
         public Void visitArrayType(ArrayTypeTree tree, Void none) {
             rule(3, "rows of " + tree.getType(), tree.getType().toString().equals("int"));
             return super.visitArrayType(tree, none);
+        }
+
+        /** A number written out, or a name in capitals. */
+        boolean isFixed(ExpressionTree tree) {
+            return tree.getKind() == Tree.Kind.INT_LITERAL ? !tree.toString().equals("0") : tree.toString().matches("[A-Z_]+");
+        }
+
+        @Override
+        public Void visitArrayAccess(ArrayAccessTree tree, Void none) {
+            rule(7, method + " reads a row: " + tree, READ_ROWS.contains(method));
+            return super.visitArrayAccess(tree, none);
+        }
+
+        @Override
+        public Void visitBinary(BinaryTree tree, Void none) {
+            boolean divides = tree.getKind() == Tree.Kind.DIVIDE || tree.getKind() == Tree.Kind.REMAINDER;
+            rule(7, method + " divides: " + tree, !divides || isFixed(tree.getRightOperand()) || DIVIDE.contains(method));
+            boolean text = tree.getLeftOperand().getKind() == Tree.Kind.STRING_LITERAL || tree.getRightOperand().getKind() == Tree.Kind.STRING_LITERAL;
+            rule(10, method + " joins texts: " + tree, !text);
+            return super.visitBinary(tree, none);
+        }
+
+        @Override
+        public Void visitCompoundAssignment(CompoundAssignmentTree tree, Void none) {
+            boolean divides = tree.getKind() == Tree.Kind.DIVIDE_ASSIGNMENT || tree.getKind() == Tree.Kind.REMAINDER_ASSIGNMENT;
+            rule(7, method + " divides: " + tree, !divides || isFixed(tree.getExpression()));
+            return super.visitCompoundAssignment(tree, none);
+        }
+
+        @Override
+        public Void visitTypeCast(TypeCastTree tree, Void none) {
+            rule(6, method + " casts: " + tree, tree.getType() instanceof PrimitiveTypeTree);
+            return super.visitTypeCast(tree, none);
+        }
+
+        @Override
+        public Void visitInstanceOf(InstanceOfTree tree, Void none) {
+            rule(6, method + ": " + tree, false);
+            return null;
+        }
+
+        @Override
+        public Void visitForLoop(ForLoopTree tree, Void none) {
+            rule(9, method + " has a loop without an end: " + tree, tree.getCondition() != null && !tree.getUpdate().isEmpty());
+            return super.visitForLoop(tree, none);
+        }
+
+        @Override
+        public Void visitWhileLoop(WhileLoopTree tree, Void none) {
+            rule(9, method + " has a loop that only counts by its body", false);
+            return null;
+        }
+
+        @Override
+        public Void visitDoWhileLoop(DoWhileLoopTree tree, Void none) {
+            rule(9, method + " has a loop that only counts by its body", false);
+            return null;
+        }
+
+        @Override
+        public Void visitBlock(BlockTree tree, Void none) {
+            rule(5, "a static block", !tree.isStatic());
+            return super.visitBlock(tree, none);
+        }
+
+        @Override
+        public Void visitNewClass(NewClassTree tree, Void none) {
+            rule(12, method + " makes " + tree, method.isEmpty() || method.equals("<init>"));
+            rule(2, "a class without a name", tree.getClassBody() == null);
+            return super.visitNewClass(tree, none);
+        }
+
+        @Override
+        public Void visitNewArray(NewArrayTree tree, Void none) {
+            rule(12, method + " makes " + tree, method.isEmpty() || method.equals("<init>"));
+            return super.visitNewArray(tree, none);
         }
 
         @Override
